@@ -110,6 +110,78 @@ public final class LawsTest {
         breachIs(x, 2, 2, 3, 5, 6);
     }
 
+    /** SAME changes b alone: the PRICES of 0 are like those of 1, those of 2 are not. */
+    private static void breachOfSame() {
+        YearBaskets x = new YearBaskets();
+        Due.prices(x, 0, 1, 2);
+        Due.prices(x, 1, 3, 6);
+        Due.prices(x, 2, 5, 4);
+        Due.basket(x, 0, 0, 1, 0);
+        Due.basket(x, 0, 1, 0, 1);
+        Due.basket(x, 0, 2, 0, 1);
+        Due.numberOf(x, "link old");
+        due("SAME of link old, kept", x.keeps(0, 0, 0), 1);
+        x.price(0, 1, 3);
+        breachIs(x, 0, 0, 0, 2, NONE);
+        x.price(0, 1, 2);
+        due("SAME of link old, kept again", x.keeps(0, 0, 0), 1);
+    }
+
+    /** The last YEARS and the last GOOD are looked at, too. */
+    private static void breachAtTheEnd() {
+        YearBaskets x = new YearBaskets();
+        for (int y = 5; y < 8; y++) {
+            Due.prices(x, y, 0, 0, 0, 0, y == 6 ? 7 : 2);
+            Due.basket(x, 0, y, 0, 0, 0, 0, 1);
+        }
+        for (String text : new String[] {"sums", "most(old,least(at5,sums))", "mean(old,back old)", "link new"}) {
+            Due.numberOf(x, text);
+        }
+        breachIs(x, 0, 4, NONE, NONE, NONE);
+        x.price(6, 3, 1);
+        x.price(7, 3, 2);
+        breachIs(x, 0, 4, 6, 7, 3);
+        x.price(6, 2, 1);
+        x.price(6, 3, 0);
+        x.price(7, 3, 0);
+        x.price(7, 2, 9);
+        x.price(5, 2, 9);
+        x.bought(0, 6, 2, 9);
+        breachIs(x, 3, 2, 5, 7, 6);
+    }
+
+    /** A PRICE that is missing in b is passed over by UP: with it the NUMBER would become less. */
+    private static void upPassesOverWhatIsMissing() {
+        YearBaskets x = new YearBaskets();
+        Due.prices(x, 0, 2, 99);
+        Due.prices(x, 1, 8, 0);
+        Due.numberOf(x, "both sums");
+        due("UP", x.keeps(0, 0, 5), 1);
+        due("TWICE", x.keeps(0, 0, 3), 1);
+    }
+
+    /** link goes beyond the ratios: above the greatest, below the least. */
+    private static void between() {
+        YearBaskets x = new YearBaskets();
+        for (int y = 0; y < 3; y++) {
+            Due.prices(x, y, y == 1 ? 10 : 1, y == 1 ? 1 : 10, 4, y == 2 ? 5 : 0);
+            Due.basket(x, 0, y, y == 1 ? 0 : 1, y == 1 ? 1 : 0);
+        }
+        for (String text : new String[] {"link old", "link new", "least(root(link old,at1),link old)"}) {
+            Due.numberOf(x, text);
+        }
+        breachIs(x, 0, 6, 0, 2, NONE);
+        breachIs(x, 1, 6, 0, 2, NONE);
+        // A ratio as far as the link goes keeps the LAW, from 0 to 2; from 2 to 0 it does not.
+        x.price(0, 0, 2);
+        x.price(2, 0, 99);
+        x.price(2, 2, 99);
+        x.price(0, 2, 1);
+        breachIs(x, 0, 6, 2, 0, NONE);
+        breachIs(x, 2, 6, 2, 0, NONE);
+        breachIs(x, 1, 6, 0, 2, NONE);
+    }
+
     private static void clash() {
         YearBaskets x = three();
         due("clash without NUMBERS", x.clash(0), 0);
@@ -121,6 +193,9 @@ public final class LawsTest {
         Due.numberOf(x, "root(old,new)");
         due("clash of old, sums, root(old,new)", x.clash(0), 4 + 16);
         due("clash of all together", x.clash(3), 4 + 16);
+        YearBaskets z = three();
+        Due.numberOf(z, "link old");
+        due("clash of link old", z.clash(0), 1);
         Due.numberOf(x, "at 0");
         due("clash with one that keeps all", x.clash(0), NONE);
         due("clash(4)", x.clash(4), UNKNOWN);
@@ -178,6 +253,10 @@ public final class LawsTest {
         keepsAnew();
         breach();
         breachByHoles();
+        breachOfSame();
+        breachAtTheEnd();
+        upPassesOverWhatIsMissing();
+        between();
         clash();
         drift();
         driftThatIsLarge();

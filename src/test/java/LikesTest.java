@@ -129,6 +129,14 @@ public final class LikesTest {
         due("need: in least terms, upper", x.need(0, 0, 3, 0), 8);
         x.price(3, 0, 7);
         due("need: a itself costs least", x.need(0, 0, 3, 0), 7);
+        // 1 is CHOSEN ahead of 0, not surely; COST (a, a) may be 1.
+        x = singles(new int[] {1, 9}, new int[] {5, 5}, new int[] {7, 6});
+        due("need: by a step that is not sure", x.need(0, 0, 2, 2), 1);
+        due("need: COST (a, a) 1", x.need(0, 0, 2, 0), 6);
+        // All come to 7, YEAR 0 by seven steps.
+        x = ofEight();
+        due("need: by seven steps", x.need(0, 7, 7, 2), 0);
+        due("need: by seven steps, upper", x.need(0, 7, 7, 0), 3);
     }
 
     public static void main(String[] args) {

@@ -51,6 +51,7 @@ public final class NumbersTest {
         due("eight deep", Due.numberOf(z, "back back back back back back back old"), 0);
         due("nine deep", Due.numberOf(z, "back back back back back back back back old"), -12);
         due("nine deep within a pair", Due.numberOf(z, "link link link link link link root(old,most(old,new))"), -12);
+        due("nine deep in the first of a pair", Due.numberOf(z, "link link link link link link root(most(old,new),old)"), -12);
         due("a pair eight deep", Due.numberOf(z, "link link link link link link root(old,at1)"), 1);
     }
 
@@ -66,6 +67,10 @@ public final class NumbersTest {
         faultAt("older", 1, 0);
         faultAt(" oldnew", 1, 1);
         faultAt("ol d", 1, 0);
+        faultAt("oldz", 1, 0);
+        faultAt("aold", 1, 0);
+        faultAt("wew", 1, 0);
+        faultAt("nev", 1, 0);
         faultAt("Old", 1, 0);
         faultAt("oLd", 1, 0);
         faultAt("old new", 1, 4);
@@ -182,6 +187,16 @@ public final class NumbersTest {
         worthIs(x, "both mean(old,back old)", 0, 1, 157, 104, 0);
         refusedIs(x, "both old", 0, 7, NOT);
         worthIs(x, "both link old", 7, 7, 1, 1, 0);
+        x = two();
+        x.bought(0, 1, 2, 1);
+        x.price(1, 2, 1);
+        refusedIs(x, "mid", 0, 1, NOT);
+        refusedIs(x, "mid", 1, 0, NOT);
+        refusedIs(x, "new", 0, 1, NOT);
+        refusedIs(x, "plain", 0, 1, NOT);
+        x.price(0, 2, 1);
+        worthIs(x, "plain", 0, 1, 4, 3, 0);
+        worthIs(x, "mid", 0, 1, 22, 15, 0);
         x = new YearBaskets();
         refusedIs(x, "plain", 0, 1, NOT);
         refusedIs(x, "sums", 0, 1, NOT);

@@ -47,6 +47,11 @@ public final class PartsTest {
         due("part, b -1", x.part(0, 0, 0, -1, 0), UNKNOWN);
         due("part, what 2", x.part(0, 0, 0, 1, 2), OUTSIDE);
         due("part, what -1, OUTSIDE ahead of NOT", x.part(1, 0, 0, 1, -1), OUTSIDE);
+        Due.prices(x, 6, 1, 1);
+        Due.prices(x, 7, 4, 1);
+        x.bought(0, 6, 0, 1);
+        due("part: COST (a, a) 1", x.part(0, 0, 6, 7, 0), 3);
+        due("part: PRICE in b 1", x.part(0, 0, 0, 6, 0), -5);
         x.bought(0, 0, 4, 1);
         due("part: COST (a, a) HOLED", x.part(0, 0, 0, 1, 0), NOT);
         due("part: COST (a, a) HOLED, not BOUGHT", x.part(0, 3, 0, 1, 0), NOT);
@@ -139,6 +144,8 @@ public final class PartsTest {
         due("turn of old to 1", x.turn(0, 0, 0, 1, 1, 0, 1, 1), 2);
         due("turn of old to 2", x.turn(0, 0, 0, 1, 1, 0, 2, 1), 5);
         due("turn of old to 23 / 13", x.turn(0, 0, 0, 1, 1, 0, 23, 13), 4);
+        due("turn of old to the PRICE 99", x.turn(0, 0, 0, 1, 1, 0, 498, 13), 99);
+        due("turn of old to more", x.turn(0, 0, 0, 1, 1, 0, 499, 13), NONE);
         due("turn of old to 9999", x.turn(0, 0, 0, 1, 1, 0, 9999, 1), NONE);
         due("turn of old to next to nothing", x.turn(0, 0, 0, 1, 1, 0, 1, 9999), 1);
         due("turn by the YEAR below", x.turn(0, 0, 0, 1, 0, 0, 2, 1), 1);
