@@ -438,25 +438,27 @@ public final class YearBaskets {
         }
 
         int priceOf(int y, int g) {
-            return isNoYear(y) || isNoGood(g) ? 0 : prices[y * GOODS + g];
+            int i = y * GOODS + g;
+            return i < 0 || i >= prices.length ? 0 : prices[i];
         }
 
         void setPrice(int y, int g, int v) {
-            if (isNoYear(y) || isNoGood(g)) {
-                return;
+            int i = y * GOODS + g;
+            if (i >= 0 && i < prices.length) {
+                prices[i] = v;
             }
-            prices[y * GOODS + g] = v;
         }
 
         int amountOf(int who, int y, int g) {
-            return isNoWho(who) || isNoYear(y) || isNoGood(g) ? 0 : amounts[(who * YEARS + y) * GOODS + g];
+            int i = (who * YEARS + y) * GOODS + g;
+            return i < 0 || i >= amounts.length ? 0 : amounts[i];
         }
 
         void setAmount(int who, int y, int g, int v) {
-            if (isNoWho(who) || isNoYear(y) || isNoGood(g)) {
-                return;
+            int i = (who * YEARS + y) * GOODS + g;
+            if (i >= 0 && i < amounts.length) {
+                amounts[i] = v;
             }
-            amounts[(who * YEARS + y) * GOODS + g] = v;
         }
 
         void copyYear(int from, int to) {
@@ -471,16 +473,12 @@ public final class YearBaskets {
             }
         }
 
-        /** A unit of g twice as large, told in amounts that stay whole: all other amounts double. */
-        void doubleUnit(int g) {
+        /** A unit of g twice as large, told in amounts that stay whole: all others that WHO BOUGHT double. */
+        void doubleUnit(int g, int who) {
             for (int y = 0; y < YEARS; y++) {
                 setPrice(y, g, 2 * priceOf(y, g));
-            }
-            for (int who = 0; who < WHOS; who++) {
-                for (int y = 0; y < YEARS; y++) {
-                    for (int h = 0; h < GOODS; h++) {
-                        setAmount(who, y, h, (h == g ? 1 : 2) * amountOf(who, y, h));
-                    }
+                for (int h = 0; h < GOODS; h++) {
+                    setAmount(who, y, h, (h == g ? 1 : 2) * amountOf(who, y, h));
                 }
             }
         }
@@ -1124,6 +1122,7 @@ public final class YearBaskets {
         private final Fraction right = new Fraction();
         private Plan plan = null;
         private int who = 0;
+        private int told = NONE;
 
         Laws(Books inBooks, Books forTrying, Teller byTeller) {
             books = inBooks;
@@ -1135,6 +1134,7 @@ public final class YearBaskets {
             for (int i = 0; i < found.length; i++) {
                 found[i] = NOT_LOOKED;
             }
+            told = NONE;
         }
 
         static int partOfBreach(int code, int what) {
@@ -1156,12 +1156,10 @@ public final class YearBaskets {
             }
             plan = ofPlan;
             who = forWho;
-            tellAllYears();
-            found[i] = firstBreach(law);
-            return found[i];
-        }
-
-        private int firstBreach(int law) {
+            if (told != n * WHOS + who) {
+                tellAllYears();
+                told = n * WHOS + who;
+            }
             int goods = books.goodsThere();
             int from = law == THIRD || law == UNITS || law == UP ? 0 : NONE;
             int to = law == THIRD ? YEARS - 1 : from == 0 ? GOODS - 1 : NONE;
@@ -1170,11 +1168,13 @@ public final class YearBaskets {
                     for (int t = from; t <= to && a != b; t++) {
                         boolean wanted = law == THIRD ? t != a && t != b : t == NONE || (goods >> t & 1) == 1;
                         if (wanted && isBroken(law, a, b, t)) {
-                            return FIRST_CODE + (a * YEARS + b) * THIRDS + t + 1;
+                            found[i] = FIRST_CODE + (a * YEARS + b) * THIRDS + t + 1;
+                            return found[i];
                         }
                     }
                 }
             }
+            found[i] = KEPT;
             return KEPT;
         }
 
@@ -1242,7 +1242,7 @@ public final class YearBaskets {
                     tried.doubleYear(b);
                     break;
                 case UNITS:
-                    tried.doubleUnit(g);
+                    tried.doubleUnit(g, who);
                     break;
                 default:
                     tried.setPrice(b, g, tried.priceOf(b, g) + 1);

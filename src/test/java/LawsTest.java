@@ -148,6 +148,20 @@ public final class LawsTest {
         x.price(5, 2, 9);
         x.bought(0, 6, 2, 9);
         breachIs(x, 3, 2, 5, 7, 6);
+        x = new YearBaskets();
+        Due.prices(x, 5, 0, 0, 0, 1, 4);
+        Due.prices(x, 6, 0, 0, 0, 1, 1);
+        Due.prices(x, 7, 0, 0, 0, 3, 1);
+        for (int y = 5; y < 8; y++) {
+            x.bought(0, y, 3, y - 4);
+            x.bought(0, y, 4, 1);
+        }
+        Due.numberOf(x, "old");
+        Due.numberOf(x, "least(plain,sums)");
+        breachIs(x, 0, 2, 5, 6, 7);
+        Due.prices(x, 5, 0, 0, 0, 0, 0);
+        // plain is 2, sums too: with GOOD 3 doubled sums is more, with GOOD 4 doubled it is less.
+        breachIs(x, 1, 4, 6, 7, 4);
     }
 
     /** A PRICE that is missing in b is passed over by UP: with it the NUMBER would become less. */
@@ -225,6 +239,23 @@ public final class LawsTest {
         due("drift, what -1, OUTSIDE ahead of NOT", x.drift(2, 0, 0, 1, -1), OUTSIDE);
     }
 
+    /** Eight deep, and link of it by drift one deeper. */
+    private static void driftOfDeepOnes() {
+        YearBaskets x = three();
+        String[] texts = {"back back back back back back mean(old,old)", "both both both both both both link old",
+            "mean(old,mean(old,mean(old,mean(old,mean(old,old)))))", "least(back back back back back back old,mid)"};
+        for (String text : texts) {
+            Due.numberOf(x, text);
+        }
+        due("worth of eight deep", x.worth(0, 0, 0, 2, 0), 1);
+        due("drift of eight deep: upper", x.drift(0, 0, 0, 2, 0), 92);
+        due("drift of eight deep: lower", x.drift(0, 0, 0, 2, 1), 65);
+        due("worth of link at the bottom", x.worth(1, 0, 0, 2, 0), 92);
+        due("drift of link at the bottom", x.drift(1, 0, 0, 2, 0), 1);
+        due("drift of many means", x.drift(2, 0, 0, 2, 0), 92);
+        due("worth of a pair far apart", x.worth(3, 0, 0, 1, 0), 43);
+    }
+
     /** link is 99 to the 6, WORTH by itself 17 / 1657: the quotient alone is LARGE. */
     private static void driftThatIsLarge() {
         YearBaskets x = new YearBaskets();
@@ -259,6 +290,7 @@ public final class LawsTest {
         between();
         clash();
         drift();
+        driftOfDeepOnes();
         driftThatIsLarge();
         DUE.end("LawsTest");
     }
