@@ -1,11 +1,46 @@
 /** What the tests share: counting wrong answers, and feeding texts. */
 final class Due {
+    private String sentence = "";
+    private int looks = 1;
     private int wrong = 0;
 
+    interface Asked {
+        long of(int v);
+    }
+
     void due(String call, long got, long want) {
+        looks++;
         if (got != want) {
             wrong++;
-            System.out.println(call + " answered " + got + ", due is " + want);
+            System.out.println(call + " answered " + got + ", due is " + want
+                    + (sentence.isEmpty() ? "" : ", by: " + sentence));
+        }
+    }
+
+    /** From here on it is this sentence of the document that is looked at; SentencesTest looks for it there. */
+    void says(String quoted) {
+        endSentence();
+        sentence = quoted;
+        looks = 0;
+    }
+
+    private void endSentence() {
+        if (looks == 0) {
+            wrong++;
+            System.out.println("nothing was looked at for: " + sentence);
+        }
+    }
+
+    /** What may be given, from the least to the greatest, is not refused so; one beyond each is, and the farthest. */
+    void edges(String call, int least, int greatest, long refusal, Asked asked) {
+        for (int v = least; v <= greatest; v++) {
+            if (v - least < 100 || greatest - v < 100) {
+                long got = asked.of(v);
+                due(call + " with " + v + " refused as beyond", got == refusal ? 1 : 0, 0);
+            }
+        }
+        for (int v : new int[] {least - 1, greatest + 1, Integer.MIN_VALUE, Integer.MAX_VALUE}) {
+            due(call + " with " + v, asked.of(v), refusal);
         }
     }
 
@@ -45,6 +80,7 @@ final class Due {
     }
 
     void end(String name) {
+        endSentence();
         System.out.println(name + ": " + (wrong == 0 ? "all answers are as due" : wrong + " answers are not as due"));
         if (wrong != 0) {
             System.exit(1);

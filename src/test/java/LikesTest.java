@@ -8,18 +8,8 @@ public final class LikesTest {
         DUE.due(call, got, want);
     }
 
-    /** In YEAR y one piece of GOOD y is BOUGHT: y is CHOSEN ahead of z, if GOOD z was not dearer in y. */
-    private static YearBaskets singles(int[]... prices) {
-        YearBaskets x = new YearBaskets();
-        for (int y = 0; y < prices.length; y++) {
-            Due.prices(x, y, prices[y]);
-            x.bought(0, y, y, 1);
-        }
-        return x;
-    }
-
     private static void chosen() {
-        YearBaskets x = singles(new int[] {5, 4, 5, 6, 0}, new int[] {9, 5, 4, 9, 9}, new int[] {0, 0, 0, 1, 1});
+        YearBaskets x = Worlds.singles(new int[] {5, 4, 5, 6, 0}, new int[] {9, 5, 4, 9, 9}, new int[] {0, 0, 0, 1, 1});
         due("chosen: surely", x.chosen(0, 0, 1), 2);
         due("chosen: as much", x.chosen(0, 0, 2), 1);
         due("chosen: ahead of itself", x.chosen(0, 0, 0), 1);
@@ -51,49 +41,27 @@ public final class LikesTest {
     }
 
     private static void ring() {
-        ringIs(singles(new int[] {5, 9, 9, 9, 9}, new int[] {4, 5, 9, 9, 9}, new int[] {4, 4, 5, 9, 9}));
-        ringIs(singles(new int[] {5, 4, 9}, new int[] {9, 5, 4}, new int[] {4, 9, 5}), 0, 1, 2);
-        ringIs(singles(new int[] {5, 9, 4}, new int[] {4, 5, 9}, new int[] {9, 4, 5}), 0, 2, 1);
-        ringIs(singles(new int[] {5, 5, 9}, new int[] {9, 5, 5}, new int[] {5, 9, 5}));
-        ringIs(singles(new int[] {5, 5, 9}, new int[] {9, 5, 4}, new int[] {5, 9, 5}), 0, 1, 2);
+        ringIs(Worlds.singles(new int[] {5, 9, 9, 9, 9}, new int[] {4, 5, 9, 9, 9}, new int[] {4, 4, 5, 9, 9}));
+        ringIs(Worlds.singles(new int[] {5, 4, 9}, new int[] {9, 5, 4}, new int[] {4, 9, 5}), 0, 1, 2);
+        ringIs(Worlds.singles(new int[] {5, 9, 4}, new int[] {4, 5, 9}, new int[] {9, 4, 5}), 0, 2, 1);
+        ringIs(Worlds.singles(new int[] {5, 5, 9}, new int[] {9, 5, 5}, new int[] {5, 9, 5}));
+        ringIs(Worlds.singles(new int[] {5, 5, 9}, new int[] {9, 5, 4}, new int[] {5, 9, 5}), 0, 1, 2);
         // Two YEARS are fewer than the three from 0 on; and of two rings of two, 1 comes ahead of 3.
-        ringIs(singles(new int[] {5, 4, 9, 9, 9}, new int[] {9, 5, 4, 9, 9}, new int[] {4, 9, 5, 9, 9},
+        ringIs(Worlds.singles(new int[] {5, 4, 9, 9, 9}, new int[] {9, 5, 4, 9, 9}, new int[] {4, 9, 5, 9, 9},
                 new int[] {9, 9, 9, 5, 5}, new int[] {9, 9, 9, 4, 5}), 3, 4);
-        ringIs(singles(new int[] {5, 9, 9, 9, 9}, new int[] {9, 5, 9, 9, 4}, new int[] {9, 9, 5, 4, 9},
+        ringIs(Worlds.singles(new int[] {5, 9, 9, 9, 9}, new int[] {9, 5, 9, 9, 4}, new int[] {9, 9, 5, 4, 9},
                 new int[] {9, 9, 4, 5, 9}, new int[] {9, 5, 9, 9, 5}), 1, 4);
         // A ring of two that is not sure does not count; the sure one goes round by three.
-        ringIs(singles(new int[] {5, 5, 4}, new int[] {5, 5, 9}, new int[] {9, 5, 5}), 0, 2, 1);
+        ringIs(Worlds.singles(new int[] {5, 5, 4}, new int[] {5, 5, 9}, new int[] {9, 5, 5}), 0, 2, 1);
         YearBaskets x = new YearBaskets();
         due("ring of nothing", x.ring(2, NONE), 0);
         due("ring(4, 0)", x.ring(4, 0), UNKNOWN);
         due("ring(-1, NONE)", x.ring(-1, NONE), UNKNOWN);
-        ringIs(ofEight(), 0, 1, 2, 3, 4, 5, 6, 7);
-    }
-
-    /**
-     * In each YEAR a pair of GOODS is BOUGHT; by its PRICES the pair of the next YEAR alone would have cost less:
-     * one GOOD is in both, the other one of the next YEAR is somewhat cheaper, all else is dear.
-     */
-    private static YearBaskets ofEight() {
-        int[][] pairs = {{0, 1}, {1, 2}, {2, 3}, {3, 4}, {4, 0}, {4, 2}, {2, 0}, {0, 3}};
-        YearBaskets x = new YearBaskets();
-        for (int y = 0; y < 8; y++) {
-            int[] own = pairs[y];
-            int[] next = pairs[(y + 1) % 8];
-            Due.prices(x, y, 99, 99, 99, 99, 99);
-            for (int g : next) {
-                x.price(y, g, 2);
-            }
-            for (int g : own) {
-                x.bought(0, y, g, 1);
-                x.price(y, g, g == next[0] || g == next[1] ? 1 : 3);
-            }
-        }
-        return x;
+        ringIs(Worlds.ofEight(), 0, 1, 2, 3, 4, 5, 6, 7);
     }
 
     private static void need() {
-        YearBaskets x = singles(new int[] {1, 2}, new int[] {2, 1});
+        YearBaskets x = Worlds.singles(new int[] {1, 2}, new int[] {2, 1});
         Due.basket(x, 0, 0, 1, 3);
         Due.basket(x, 0, 1, 3, 1);
         due("need: upper", x.need(0, 0, 1, 0), 5);
@@ -115,7 +83,7 @@ public final class LikesTest {
 
     private static void needStepByStep() {
         // 2 is CHOSEN ahead of 1, 1 ahead of 0; not 2 ahead of 0: two steps.
-        YearBaskets x = singles(new int[] {5, 9, 9}, new int[] {4, 5, 9}, new int[] {9, 4, 5}, new int[] {8, 6, 3});
+        YearBaskets x = Worlds.singles(new int[] {5, 9, 9}, new int[] {4, 5, 9}, new int[] {9, 4, 5}, new int[] {8, 6, 3});
         due("need: no straight step", x.chosen(0, 2, 0), 0);
         due("need: YEAR from two steps off", x.need(0, 0, 3, 2), 2);
         due("need: upper", x.need(0, 0, 3, 0), 3);
@@ -130,11 +98,11 @@ public final class LikesTest {
         x.price(3, 0, 7);
         due("need: a itself costs least", x.need(0, 0, 3, 0), 7);
         // 1 is CHOSEN ahead of 0, not surely; COST (a, a) may be 1.
-        x = singles(new int[] {1, 9}, new int[] {5, 5}, new int[] {7, 6});
+        x = Worlds.singles(new int[] {1, 9}, new int[] {5, 5}, new int[] {7, 6});
         due("need: by a step that is not sure", x.need(0, 0, 2, 2), 1);
         due("need: COST (a, a) 1", x.need(0, 0, 2, 0), 6);
         // All come to 7, YEAR 0 by seven steps.
-        x = ofEight();
+        x = Worlds.ofEight();
         due("need: by seven steps", x.need(0, 7, 7, 2), 0);
         due("need: by seven steps, upper", x.need(0, 7, 7, 0), 3);
     }
