@@ -1,5 +1,11 @@
+import java.util.Set;
+import java.util.TreeSet;
+
 /** What the tests share: counting wrong answers, and feeding texts. */
 final class Due {
+    /** The sentences of the document that have been looked at since this machine was started. */
+    static final Set<String> LOOKED_AT = new TreeSet<>();
+
     private String sentence = "";
     private int looks = 1;
     private int wrong = 0;
@@ -20,6 +26,7 @@ final class Due {
     /** From here on it is this sentence of the document that is looked at; SentencesTest looks for it there. */
     void says(String quoted) {
         endSentence();
+        LOOKED_AT.add(quoted);
         sentence = quoted;
         looks = 0;
     }

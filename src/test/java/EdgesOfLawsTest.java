@@ -120,6 +120,26 @@ public final class EdgesOfLawsTest {
         unbroken(four, "old", THIRD);
     }
 
+    /** new asks for the basket of b: nothing is BOUGHT in 1, so what comes to 1 is NOT, and 0 is the least b. */
+    private static void thirdsByTheLeastYear() {
+        YearBaskets x = new YearBaskets();
+        Due.prices(x, 0, 1, 5);
+        Due.prices(x, 1, 2, 7);
+        Due.prices(x, 2, 3, 1);
+        Due.basket(x, 0, 0, 4, 1);
+        Due.basket(x, 0, 2, 1, 4);
+        breachIs(x, "new", THIRD, 1, 0, 2);
+        YearBaskets last = new YearBaskets();
+        Due.prices(last, 7, 1, 5);
+        Due.prices(last, 6, 2, 7);
+        Due.prices(last, 5, 3, 1);
+        Due.basket(last, 0, 7, 4, 1);
+        Due.basket(last, 0, 5, 1, 4);
+        breachIs(last, "new", THIRD, 6, 5, 7);
+        Due.basket(last, 0, 5, 0, 0);
+        unbroken(last, "new", THIRD);
+    }
+
     /** sums breaks UNITS by each GOOD but one whose PRICE goes as all together go. */
     private static void unitsInOrder() {
         for (int g = 0; g < 5; g++) {
@@ -147,6 +167,12 @@ public final class EdgesOfLawsTest {
         breachIs(x, "sums", UNITS, 0, 1, 0);
         x.price(1, 4, 6);
         unbroken(x, "sums", UNITS);
+        // plain and sums are 2: with GOOD 3 doubled sums is more, with GOOD 4 doubled it is less.
+        YearBaskets last = new YearBaskets();
+        Due.prices(last, 6, 0, 0, 0, 1, 1);
+        Due.prices(last, 7, 0, 0, 0, 3, 1);
+        breachIs(last, "least(plain,sums)", UNITS, 6, 7, 4);
+        breachIs(last, "most(plain,sums)", UNITS, 6, 7, 3);
     }
 
     private static void passedOver() {
@@ -435,6 +461,7 @@ public final class EdgesOfLawsTest {
         for (String text : new String[] {"old", "new", "mid", "plain", "sums", "root(old,new)", "back plain", "least(old,new)"}) {
             unbroken(three(), text, BETWEEN);
         }
+        betweenByOneGood();
         // From 0 to 2 there is no GOOD that has both: GOOD 0 is gone, GOOD 1 has come.
         YearBaskets x = new YearBaskets();
         Due.prices(x, 0, 1, 0);
@@ -445,6 +472,31 @@ public final class EdgesOfLawsTest {
         int n = Due.numberOf(x, "link old");
         due("link old from 0 to 2", x.worth(n, 0, 0, 2, 0), 99);
         due("no GOOD has both", x.keeps(n, 0, BETWEEN), 1);
+    }
+
+    /** link is 7 / 3, or 3 / 7; GOODS 0 and 1 go by 1, GOOD 2 by each small fraction. */
+    private static void betweenByOneGood() {
+        YearBaskets up = new YearBaskets();
+        YearBaskets down = new YearBaskets();
+        for (int y = 0; y < 3; y++) {
+            Due.prices(up, y, y == 1 ? 7 : 3, 1);
+            Due.prices(down, y, y == 1 ? 3 : 7, 1);
+        }
+        for (YearBaskets x : new YearBaskets[] {up, down}) {
+            x.bought(0, 0, 0, 1);
+            x.bought(0, 1, 1, 1);
+            Due.numberOf(x, "link old");
+        }
+        for (int before = 1; before <= 8; before++) {
+            up.price(0, 2, before);
+            down.price(0, 2, before);
+            for (int after = 1; after <= 8; after++) {
+                up.price(2, 2, after);
+                down.price(2, 2, after);
+                due("7 / 3 with " + after + " / " + before, up.keeps(0, 0, BETWEEN), 3 * after >= 7 * before ? 1 : 0);
+                due("3 / 7 with " + after + " / " + before, down.keeps(0, 0, BETWEEN), 7 * after <= 3 * before ? 1 : 0);
+            }
+        }
     }
 
     // ---- BREACH, CLASH, DRIFT
@@ -467,6 +519,27 @@ public final class EdgesOfLawsTest {
         due("BACK with like baskets", x.breach(n, 0, BACK, 0), NONE);
         x.bought(0, 1, 0, 2);
         due("BACK again", x.breach(n, 0, BACK, 0), 1);
+        // So for each LAW of the first NUMBER and of the last one, and for each WHO.
+        YearBaskets z = new YearBaskets();
+        for (int i = 0; i < 8; i++) {
+            Due.numberOf(z, "link old");
+        }
+        for (int who = 0; who < 4; who++) {
+            for (int law : new int[] {SAME, BACK, THIRD, BETWEEN}) {
+                due("law " + law + " without PRICES for " + who, z.keeps(0, who, law) + z.keeps(7, who, law), 2);
+            }
+        }
+        for (int y = 0; y < 3; y++) {
+            Due.prices(z, y, y == 1 ? 10 : 1, y == 1 ? 1 : 10);
+            for (int p = 0; p < 3; p++) {
+                Due.basket(z, p, y, y == 1 ? 0 : 1, y == 1 ? 1 : 0);
+            }
+        }
+        for (int who = 0; who < 4; who++) {
+            for (int law : new int[] {SAME, BACK, THIRD, BETWEEN}) {
+                due("law " + law + " with PRICES for " + who, z.keeps(0, who, law) + z.keeps(7, who, law), 0);
+            }
+        }
     }
 
     /** What is found for one NUMBER and WHO is not taken for another's, in whatever order they are asked. */
@@ -501,6 +574,30 @@ public final class EdgesOfLawsTest {
                     due(texts[n] + " for " + who + ", law " + law + ", c or g", z.breach(n, who, law, 2) - alone[n][who][law] % 10
                             - (alone[n][who][law] == -111 ? 0 : law == BACK ? -10 : 0), 0);
                 }
+            }
+        }
+    }
+
+    /** Each NUMBER and WHO behind each other one, with all worked out anew. */
+    private static void breachesBehindOthers() {
+        String[] texts = {"old", "sums", "new", "plain", "at 0", "link old", "mean(old,sums)", "root(old,new)"};
+        int[] alone = new int[32];
+        for (int i = 0; i < 32; i++) {
+            YearBaskets one = Worlds.full();
+            Due.numberOf(one, texts[i / 4]);
+            alone[i] = 100 * one.breach(0, i % 4, THIRD, 0) + 10 * one.breach(0, i % 4, THIRD, 1) + one.breach(0, i % 4, THIRD, 2);
+        }
+        for (int before = 0; before < 32; before++) {
+            YearBaskets x = Worlds.full();
+            for (String text : texts) {
+                Due.numberOf(x, text);
+            }
+            for (int i = 0; i < 32; i++) {
+                x.price(7, 4, x.price(7, 4, 1));
+                x.keeps(before / 4, before % 4, BACK);
+                due("THIRD of " + texts[i / 4] + " for " + i % 4 + " behind " + texts[before / 4] + " for " + before % 4 + ": c",
+                        x.breach(i / 4, i % 4, THIRD, 2), alone[i] == -111 ? NONE : alone[i] % 10);
+                due("b", x.breach(i / 4, i % 4, THIRD, 1), alone[i] == -111 ? NONE : alone[i] / 10 % 10);
             }
         }
     }
@@ -561,6 +658,10 @@ public final class EdgesOfLawsTest {
         driftIs(x, "most(link old,at 7)", 0, 5, NOT, NOT);
         due("most(link old,at 7) from 0 to 5 is LARGE", x.worth(1, 0, 0, 5, 0), LARGE);
         driftIs(x, "link old", 0, 5, LARGE, LARGE);
+        driftIs(three(), "back back back back back back mean(old,old)", 0, 2, 92, 65);
+        driftIs(three(), "both both both both both both link old", 0, 2, 1, 1);
+        driftIs(three(), "link link link link link link most(old,old)", 0, 2, 1, 1);
+        driftIs(three(), "back back back back back back back old", 0, 2, 25, 22);
         rootsInDrift();
     }
 
@@ -689,6 +790,7 @@ public final class EdgesOfLawsTest {
     public static void main(String[] args) {
         forAllYears();
         thirdsInOrder();
+        thirdsByTheLeastYear();
         unitsInOrder();
         passedOver();
         alikeByOrder();
@@ -701,6 +803,7 @@ public final class EdgesOfLawsTest {
         between();
         breach();
         breachesApart();
+        breachesBehindOthers();
         clash();
         drift();
         promise12();

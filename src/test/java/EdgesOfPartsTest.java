@@ -36,6 +36,13 @@ public final class EdgesOfPartsTest {
         partIs(x, 2, 2, 0, 1, -98, 99);
         partIs(x, 3, 3, 0, 1, 98 * 9, 13 + 9 + 9 * 99);
         partIs(x, 3, 2, 0, 1, -98 * 9, 13 + 9 + 9 * 99);
+        // COST (a, a) may be 1.
+        YearBaskets one = new YearBaskets();
+        one.price(0, 0, 1);
+        one.price(1, 0, 99);
+        one.bought(0, 0, 0, 1);
+        partIs(one, 0, 0, 0, 1, 98, 1);
+        partIs(one, 0, 1, 0, 1, 0, 1);
         // The greatest and the least upper number: 27 of a GOOD, from 1 to 99 and back.
         YearBaskets all = new YearBaskets();
         Due.prices(all, 0, 1, 98, 1);
@@ -148,6 +155,10 @@ public final class EdgesOfPartsTest {
         due("1000 times 1000 times 10 to the 12", z.wage(root, 0, 1000, 0, 6), 1000000000 / 27);
         due("1001 times 1001 times that", z.wage(root, 0, 1001, 0, 6), LARGE);
         due("99999 by a root", z.wage(root, 0, 99999, 0, 6), LARGE);
+        YearBaskets ten = Worlds.chain(10, 1, 10, 1, 10, 1, 10, 1, 10, 1);
+        due("the greatest by a root", wageOf(ten, "link root(old,old)", 10000, 0, 5), 1000000000);
+        due("one more", wageOf(ten, "link root(old,old)", 10001, 0, 5), LARGE);
+        due("one less", wageOf(ten, "link root(old,old)", 9999, 0, 5), 999900000);
         int share = Due.numberOf(z, "link old");
         due("99999 times 10 to the 12: w once, as it is no root", z.wage(share, 0, 99999, 0, 6), 99999000000000000L / 729);
         due("WORTH itself is LARGE", wageOf(Worlds.chain(160, 3, 160, 3, 160, 3, 160, 3, 160, 3, 160, 3, 160, 3), "link old", 1, 0, 7), LARGE);

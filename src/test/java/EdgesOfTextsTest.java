@@ -99,10 +99,27 @@ public final class EdgesOfTextsTest {
             reads(one + "(old)", CANNOT_STAND, one.length());
             reads(one + ",old", CANNOT_STAND, one.length());
         }
+        lettersInPlace();
         for (String none : new String[] {"olds", "ol", "ne", "news", "mi", "mids", "a", "ats", "plai", "plains", "sum", "sumss",
             "roo", "roots", "mea", "means", "leas", "leasts", "mos", "mosts", "bac", "backs", "lin", "links", "bot", "boths", "x"}) {
             reads(none, CANNOT_STAND, 0);
             reads("  " + none + " 7", CANNOT_STAND, 2);
+        }
+    }
+
+    /** Each letter of each word is looked at: with another one the word cannot stand there. */
+    private static void lettersInPlace() {
+        String[] rest = {"", "", "", "3", "", "", "(old,new)", "(old,new)", "(old,new)", "(old,new)", " old", " old", " old"};
+        String[] words = {"old", "new", "mid", "at", "plain", "sums", "root", "mean", "least", "most", "back", "link", "both"};
+        for (int w = 0; w < words.length; w++) {
+            fine(words[w] + rest[w]);
+            for (int i = 0; i < words[w].length(); i++) {
+                for (char other : new char[] {'a', 'm', 'z'}) {
+                    if (words[w].charAt(i) != other) {
+                        reads(words[w].substring(0, i) + other + words[w].substring(i + 1) + rest[w], CANNOT_STAND, 0);
+                    }
+                }
+            }
         }
     }
 
@@ -306,9 +323,15 @@ public final class EdgesOfTextsTest {
         due("empty with a FAULT, too", x.count(1), 0);
         due("FAULT 2", Due.numberOf(x, "link ".repeat(9)), -12);
         due("empty with FAULT 2, too", x.count(1), 0);
+        due("FAULT 1 behind some words", Due.numberOf(x, "mean(old,most(at 3,?"), -11);
+        Due.prices(x, 0, 2, 3);
+        Due.prices(x, 1, 4, 3);
+        Due.basket(x, 0, 0, 5, 1);
+        Due.basket(x, 0, 1, 2, 4);
         for (int n = 1; n < 8; n++) {
-            due("its own", Due.numberOf(x, "at " + n), n);
+            due("its own", Due.numberOf(x, n == 1 ? "new" : "at " + n), n);
         }
+        due("nothing is left of the text with the FAULT", x.worth(1, 0, 0, 1, 0), 5);
         due("FULL, the text empty", x.number(), FULL);
         Due.feedText(x, "sums");
         due("FULL", x.number(), FULL);

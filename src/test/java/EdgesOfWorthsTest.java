@@ -369,6 +369,24 @@ public final class EdgesOfWorthsTest {
         }, "old", 0, 1, 23, 13);
     }
 
+    /** Texts eight deep, all told as they stand: in a pair, and one in the other. */
+    private static void deepOnes() {
+        for (String one : new String[] {"back", "link", "both"}) {
+            String six = (one + " ").repeat(6);
+            shareIs(Worlds::two, six + one + " old", 0, 1, one.equals("back") ? 5 : 23, one.equals("back") ? 4 : 13);
+            shareIs(Worlds::two, six + "most(old,new)", 0, 1, 23, 13);
+            shareIs(Worlds::two, six + "most(new,old)", 0, 1, 23, 13);
+            shareIs(Worlds::two, six + "mean(new,old)", 0, 1, 157, 104);
+            rootIs(Worlds::two, six + "root(new,old)", 0, 1, 115, 52);
+        }
+        shareIs(Worlds::two, "back back back back back link old", 0, 1, 5, 4);
+        shareIs(Worlds::two, "back back back back back both old", 1, 0, 13, 23);
+        shareIs(Worlds::two, "most(most(most(most(most(old,new),new),mid),mid),plain)", 0, 1, 23, 13);
+        shareIs(Worlds::two, "least(plain,least(mid,least(mid,least(new,least(new,old)))))", 0, 1, 5, 4);
+        shareIs(Worlds::two, "least(back back back back back back old,mid)", 0, 1, 43, 29);
+        shareIs(Worlds::two, "most(mid,back back back back back back old)", 0, 1, 23, 13);
+    }
+
     // ---- NOT, LARGE, which comes first
 
     private static void nots() {
@@ -514,6 +532,8 @@ public final class EdgesOfWorthsTest {
         // Half of it is LARGE itself: 10 to the 15 and 2187; by 2 times 10 to the 15.
         refusedIs(() -> tenToThe15(1, 1), "mean(link old,at 7)", 0, 7, LARGE);
         refusedIs(() -> tenToThe15(1, 1), "mean(link new,at 7)", 7, 0, LARGE);
+        // Both together are above it, by 4374, half of them is not.
+        shareIs(() -> tenToThe15(1, 2), "mean(link old,at 7)", 0, 7, TEN_TO_THE_15 / 2 + 2187, 2187);
         // An upper one by the least common lower number: 4096000 or 4608000 times 244140625.
         int[] ahead = {0, 25, 25, 25, 25, 25, 25, 1};
         int[] now = {1, 1, 1, 1, 1, 1, 1, 2};
@@ -564,6 +584,7 @@ public final class EdgesOfWorthsTest {
             x.price(4, 1, 0);
             return x;
         }, "link old", 0, 5, NOT);
+        largeSteps();
         // From 1 to 2 a root meets a fraction, ahead of what would be LARGE.
         refusedIs(() -> {
             YearBaskets x = rising();
@@ -576,6 +597,29 @@ public final class EdgesOfWorthsTest {
             x.bought(0, 7, 4, 1);
             return x;
         }, "link most(root(at7,at7),old)", 0, 5, NOT);
+    }
+
+    /** A step is LARGE itself between YEARS 1 and 2, where all five GOODS have PRICES that are prime. */
+    private static void largeSteps() {
+        World w = () -> {
+            YearBaskets x = new YearBaskets();
+            Due.prices(x, 0, 2, 0, 0, 0, 0);
+            Due.prices(x, 1, 97, 89, 83, 79, 73);
+            Due.prices(x, 2, 61, 67, 71, 59, 53);
+            Due.prices(x, 3, 2, 0, 0, 0, 0);
+            return x;
+        };
+        String text = "link root(both plain,both plain)";
+        rootIs(w, text, 0, 1, 97 * 97, 4);
+        refusedIs(w, text, 1, 2, LARGE);
+        refusedIs(w, text, 0, 2, LARGE);
+        refusedIs(w, text, 0, 3, LARGE);
+        refusedIs(w, text, 1, 4, LARGE);
+        refusedIs(w, text, 3, 0, LARGE);
+        rootIs(w, text, 2, 3, 4, 61 * 61);
+        refusedIs(w, text, 2, 4, NOT);
+        refusedIs(w, text, 4, 1, NOT);
+        refusedIs(w, text, 3, 7, NOT);
     }
 
     // ---- ORDER
@@ -701,6 +745,7 @@ public final class EdgesOfWorthsTest {
         boths();
         bothAllTheWay();
         goodsOfNumbers();
+        deepOnes();
         nots();
         zeroAtLeast();
         large();

@@ -279,7 +279,7 @@ public final class RandomRunsTest {
         for (int i = 0; i < numbers; i++) {
             makeNumber();
         }
-        while (calls < 500 && !failed) {
+        while (calls < 450 && !failed) {
             int kind = pick(20);
             if (kind < 2) {
                 callBooks();

@@ -1,11 +1,14 @@
+import com.sun.management.ThreadMXBean;
 import java.lang.management.ManagementFactory;
 
-/** Calls make no objects: all rows come with the object; and 512 of the dearest calls end soon. */
+/** Calls make no objects: all rows come with the object. */
 public final class RoomTest {
     private static final Due DUE = new Due();
+    private static final ThreadMXBean THREADS = (ThreadMXBean) ManagementFactory.getThreadMXBean();
+    private static final long TEXT = Due.packed("old ");
 
     private static long room() {
-        return ((com.sun.management.ThreadMXBean) ManagementFactory.getThreadMXBean()).getThreadAllocatedBytes(Thread.currentThread().getId());
+        return THREADS.getThreadAllocatedBytes(Thread.currentThread().getId());
     }
 
     private static YearBaskets full() {
@@ -32,22 +35,23 @@ public final class RoomTest {
         sum += x.ring(3, -1) + x.need(3, round % 8, 2, 0) + x.chosen(2, 1, round % 8) + x.part(1, 1, 0, round % 8, 0);
         sum += x.worth(1, 0, 0, 7, 0) + x.order(3, 2, 0, 7, 0) + x.drift(0, 1, 1, 6, 1) + x.wage(3, 1, 999, 0, 5);
         sum += x.dearest(2, 0, 6) + x.turn(1, 3, 0, 7, 4, 2, 3, 2) + x.cost(3, 1, 1) + x.goods(0, 1, 2) + x.count(3);
-        sum += x.feed(4, Due.packed("old ".substring(round % 2))) + x.fault() + x.number();
+        sum += x.feed(4, TEXT >>> 8 * (round % 2)) + x.fault() + x.number();
         return sum;
     }
 
     public static void main(String[] args) {
         YearBaskets x = full();
         long sum = 0;
-        for (int round = 0; round < 5; round++) {
+        for (int round = 0; round < 2; round++) {
             sum += askAll(x, round);
         }
         long before = room();
-        for (int round = 0; round < 25; round++) {
+        for (int round = 2; round < 12; round++) {
             sum += askAll(x, round);
         }
         long used = room() - before;
-        DUE.due("room taken by 500 calls, some bytes for the texts fed aside: " + used + " (" + sum + ")", used < 10000 ? 1 : 0, 1);
+        // The smallest object in each of ten rounds would take 160 bytes.
+        DUE.due("room taken by some 200 calls: " + used + " (" + sum + ")", used < 150 ? 1 : 0, 1);
         before = room();
         for (int i = 0; i < 100; i++) {
             sum += new YearBaskets().count(0);

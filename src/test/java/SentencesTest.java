@@ -1,10 +1,8 @@
-import java.nio.file.DirectoryStream;
 import java.nio.file.Files;
 import java.nio.file.Path;
+import java.util.Arrays;
 import java.util.Set;
 import java.util.TreeSet;
-import java.util.regex.Matcher;
-import java.util.regex.Pattern;
 
 /**
  * Each sentence of the document's Terms and Promises is quoted by a test that looks at it, and what is quoted stands there.
@@ -14,24 +12,20 @@ public final class SentencesTest {
     private static final Path DOCUMENT = Path.of("../shared/DOC.md");
     private static final Due DUE = new Due();
     /** What says nothing that a test could look at. */
-    private static final String[] NO_PROMISE = {
-        "Words in capitals are told where they come first.", "what later calls answer is free."};
+    private static final Set<String> NO_PROMISE =
+            Set.of("Words in capitals are told where they come first.", "what later calls answer is free.");
 
-    private static String plain(String text) {
-        return text.replaceAll("\\s+", " ");
-    }
-
-    private static Set<String> quoted() throws Exception {
-        Set<String> all = new TreeSet<>();
-        Pattern says = Pattern.compile("says\\(\\s*(\"[^\"]*\"(?:\\s*\\+\\s*\"[^\"]*\")*)\\s*\\)");
-        try (DirectoryStream<Path> tests = Files.newDirectoryStream(Path.of("src/test/java"), "Edges*Test.java")) {
-            for (Path test : tests) {
-                Matcher m = says.matcher(Files.readString(test));
-                while (m.find()) {
-                    all.add(m.group(1).replaceAll("\"\\s*\\+\\s*\"", "").replace("\"", ""));
-                }
-            }
-        }
+    private static Set<String> quoted() {
+        String[] none = {};
+        EdgesOfFaceTest.main(none);
+        EdgesOfBooksTest.main(none);
+        EdgesOfTextsTest.main(none);
+        EdgesOfWorthsTest.main(none);
+        EdgesOfLawsTest.main(none);
+        EdgesOfLikesTest.main(none);
+        EdgesOfPartsTest.main(none);
+        Set<String> all = new TreeSet<>(Due.LOOKED_AT);
+        all.addAll(NO_PROMISE);
         return all;
     }
 
@@ -41,7 +35,7 @@ public final class SentencesTest {
         text = text.replaceAll("(?s)## The public face.*?## Terms\n", " ");
         text = text.replaceAll("(?m)^## Promise.*$", "").replaceAll("(?m)^Ahead of the calls.*$", "");
         text = text.replaceAll("(?m)^`[^`]*`:", "").replaceAll("(?m)^```.*$", "").replaceAll("={4,} \\d ?", "");
-        return plain(text);
+        return text.replaceAll("\\s+", " ");
     }
 
     public static void main(String[] args) throws Exception {
@@ -51,14 +45,11 @@ public final class SentencesTest {
         }
         String text = sentencesOf(Files.readString(DOCUMENT));
         boolean[] covered = new boolean[text.length()];
-        Set<String> quotes = quoted();
-        quotes.addAll(Set.of(NO_PROMISE));
-        DUE.due("quotes found", quotes.size() > 60 ? 1 : 0, 1);
-        for (String quote : quotes) {
-            int at = text.indexOf(plain(quote));
+        for (String quote : quoted()) {
+            int at = text.indexOf(quote);
             DUE.due("stands in the document: " + quote, at >= 0 ? 1 : 0, 1);
-            for (; at >= 0; at = text.indexOf(plain(quote), at + 1)) {
-                java.util.Arrays.fill(covered, at, at + plain(quote).length(), true);
+            for (; at >= 0; at = text.indexOf(quote, at + 1)) {
+                Arrays.fill(covered, at, at + quote.length(), true);
             }
         }
         StringBuilder left = new StringBuilder();
