@@ -1354,6 +1354,10 @@ public final class YearBaskets {
         /** How many YEARS THE RING has; 0: there is none. */
         int findRing(int who) {
             chooseAll(who);
+            // YEARS that are all alike make very many rows: they are tried only where one of them is a ring.
+            if (!hasRing()) {
+                return 0;
+            }
             for (int length = 2; length <= YEARS; length++) {
                 for (int y = 0; y < YEARS; y++) {
                     setYearInRing(0, y);
@@ -1363,6 +1367,19 @@ public final class YearBaskets {
                 }
             }
             return 0;
+        }
+
+        /** Whether from a YEAR, surely ahead of another one, one comes back to it. */
+        private boolean hasRing() {
+            for (int y = 0; y < YEARS; y++) {
+                findAsGood(y);
+                for (int z = 0; z < asGood.length; z++) {
+                    if (asGood[z] && choiceAt(y, z) == SURELY) {
+                        return true;
+                    }
+                }
+            }
+            return false;
         }
 
         /** Tries the YEARS from a place of the row on. The first row begins with its least YEAR. */

@@ -3,7 +3,11 @@ import java.lang.reflect.Method;
 import java.lang.reflect.Modifier;
 import java.nio.file.Files;
 import java.nio.file.Path;
+import java.util.ArrayList;
+import java.util.List;
+import java.util.Map;
 import java.util.Set;
+import java.util.TreeMap;
 import java.util.TreeSet;
 import java.util.regex.Matcher;
 import java.util.regex.Pattern;
@@ -99,21 +103,94 @@ public final class LanguageTest {
         }
     }
 
+    private record Written(String name, int line, List<String> body) { }
+
     /** Methods begin and end at their indents: 4 in the class, 8 in those inside it. */
-    private static void lengths(String source) {
+    private static List<Written> methods(String source) {
+        Pattern begin = Pattern.compile("^((?: {4}){1,2})(?!.*\\b(?:class|new)\\b)(?=\\S)(?:.*? )??(\\w+)\\(.*\\) \\{$");
+        List<Written> all = new ArrayList<>();
         String[] lines = source.split("\n");
         int start = -1;
         String indent = "";
+        String name = "";
         for (int i = 0; i < lines.length; i++) {
-            Matcher begin = Pattern.compile("^((?: {4}){1,2})(?!.*\\b(?:class|new)\\b)\\S.*\\) \\{$").matcher(lines[i]);
-            if (start < 0 && begin.find()) {
+            Matcher m = begin.matcher(lines[i]);
+            if (start < 0 && m.find()) {
                 start = i;
-                indent = begin.group(1);
+                indent = m.group(1);
+                name = m.group(2);
             } else if (start >= 0 && lines[i].equals(indent + "}")) {
-                DUE.due("a method of " + (i - start + 1) + " lines at line " + (start + 1), i - start + 1 <= 60 ? 1 : 0, 1);
+                all.add(new Written(name, start + 1, List.of(lines).subList(start, i + 1)));
                 start = -1;
             }
         }
+        return all;
+    }
+
+    private static void lengths(String source) {
+        for (Written m : methods(source)) {
+            DUE.due("lines of " + m.name + " at line " + m.line, Math.max(60, m.body.size()), 60);
+        }
+    }
+
+    /** Who calls whom, straight or by others; a name that two classes gave to methods of theirs is one here. */
+    private static Map<String, Set<String>> callsOf(List<Written> methods) {
+        Map<String, Set<String>> calls = new TreeMap<>();
+        methods.forEach(m -> calls.put(m.name, new TreeSet<>()));
+        for (Written m : methods) {
+            String body = withoutCommentsAndTexts(String.join("\n", m.body.subList(1, m.body.size())));
+            Matcher call = Pattern.compile("(\\w+)\\(").matcher(body);
+            while (call.find()) {
+                if (calls.containsKey(call.group(1))) {
+                    calls.get(m.name).add(call.group(1));
+                }
+            }
+        }
+        return calls;
+    }
+
+    private static Set<String> reachedFrom(String name, Map<String, Set<String>> calls) {
+        Set<String> reached = new TreeSet<>();
+        List<String> open = new ArrayList<>(calls.get(name));
+        while (!open.isEmpty()) {
+            String next = open.remove(open.size() - 1);
+            if (reached.add(next)) {
+                open.addAll(calls.get(next));
+            }
+        }
+        return reached;
+    }
+
+    /** How deep calls go from a method on; those that call one another in a ring count once together. */
+    private static int depthOf(String name, Map<String, Set<String>> calls, Map<String, Integer> known) {
+        if (known.containsKey(name)) {
+            return known.get(name);
+        }
+        Set<String> ring = new TreeSet<>(Set.of(name));
+        for (String other : reachedFrom(name, calls)) {
+            if (reachedFrom(other, calls).contains(name)) {
+                ring.add(other);
+            }
+        }
+        int deepest = 0;
+        for (String one : ring) {
+            for (String next : calls.get(one)) {
+                deepest = ring.contains(next) ? deepest : Math.max(deepest, depthOf(next, calls, known));
+            }
+        }
+        known.put(name, deepest + 1);
+        return deepest + 1;
+    }
+
+    private static void depths(String source) {
+        Map<String, Set<String>> calls = callsOf(methods(source));
+        Map<String, Integer> known = new TreeMap<>();
+        DUE.due("methods that were found", calls.keySet().containsAll(Set.of("turn", "tellTerm", "YearBaskets", "Laws", "choiceAt")) ? 1 : 0, 1);
+        DUE.due("tellTerm calls itself by tellLink", reachedFrom("tellLink", calls).contains("tellLink") ? 1 : 0, 1);
+        for (String name : calls.keySet()) {
+            DUE.due("calls that are no recursion, from " + name + " on", Math.max(8, depthOf(name, calls, known)), 8);
+        }
+        DUE.due("classes in the file", Math.max(12, YearBaskets.class.getDeclaredClasses().length + 1), 12);
     }
 
     public static void main(String[] args) throws Exception {
@@ -121,6 +198,7 @@ public final class LanguageTest {
         face();
         words(source);
         lengths(source);
+        depths(source);
         DUE.end("LanguageTest");
     }
 }
