@@ -18,12 +18,15 @@ public final class RandomRunsTest {
     private final long seed;
     private final Map<String, Integer> seen;
     private final StringBuilder told = new StringBuilder();
+    /** Nothing missing, high PRICES and links of pairs: what comes of them is often LARGE. */
+    private final boolean steep;
     private boolean failed = false;
     private int calls = 0;
 
     private RandomRunsTest(long seed, Due due, Map<String, Integer> seen) {
         this.seed = seed;
         this.random = new Random(seed);
+        this.steep = random.nextInt(5) == 0;
         this.due = due;
         this.seen = seen;
     }
@@ -64,7 +67,7 @@ public final class RandomRunsTest {
     }
 
     private String term(int room) {
-        int kind = room <= 1 ? 0 : pick(10);
+        int kind = room <= 1 ? 0 : steep ? 2 + pick(6) : pick(10);
         if (kind < 4) {
             String leaf = LEAVES[pick(6)];
             return blanks() + leaf + blanks() + (leaf.equals("at") ? "" + pick(8) : "");
@@ -104,7 +107,7 @@ public final class RandomRunsTest {
     }
 
     private void makeNumber() {
-        String text = term(1 + pick(pick(4) == 0 ? 10 : 4));
+        String text = steep ? "link " + term(1 + pick(4)) : term(1 + pick(pick(4) == 0 ? 10 : 4));
         if (pick(8) == 0) {
             text = spoilt(text);
         }
@@ -125,9 +128,10 @@ public final class RandomRunsTest {
     }
 
     private void fill() {
-        int highest = new int[] {2, 4, 9, 30, 99}[pick(5)];
-        int most = new int[] {1, 2, 4, 9}[pick(4)];
-        boolean dense = pick(2) == 0;
+        int least = steep ? 50 : 0;
+        int highest = steep ? 49 : new int[] {2, 4, 9, 30, 99}[pick(5)];
+        int most = steep ? 9 : new int[] {1, 2, 4, 9}[pick(4)];
+        boolean dense = steep || pick(2) == 0;
         int years = dense || pick(2) == 0 ? 8 : 2 + pick(6);
         int goods = 1 + pick(5);
         int holes = dense ? 1000 : new int[] {1000, 12, 4}[pick(3)];
@@ -135,7 +139,7 @@ public final class RandomRunsTest {
         for (int y = 0; y < years; y++) {
             for (int g = 0; g < goods; g++) {
                 if (pick(holes) != 0) {
-                    setPrice(y, g, 1 + pick(highest));
+                    setPrice(y, g, least + 1 + pick(highest));
                 }
                 for (int p = 0; p < 3; p++) {
                     if (pick(bare) != 0) {
